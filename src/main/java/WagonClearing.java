@@ -346,7 +346,7 @@ public final class WagonClearing {
             }
             int over = left;
             for (int company = 0; company < COMPANIES; company++) {
-                // The product may be above an int's end.
+                // The product comes near an int's end.
                 long product = (long) left * milesOf[company];
                 parts[company] = (int) (product / allMiles);
                 cutOff[company] = (int) (product % allMiles);

@@ -61,6 +61,10 @@ final class EmptiesTest {
         x.empties(2, 0, 1);
         x.empties(3, 0, 1);
         answers(check, x, 2, 30);
+        // Only one went from 1 to 2, so only one can be taken back; 0's two others go to 3.
+        x.empties(0, 5, 0);
+        x.empties(3, 0, 3);
+        answers(check, x, 4, 10 + 20 + 2 * 35);
     }
 
     private static void onlyWhereThereIsAWay(Check check) {
