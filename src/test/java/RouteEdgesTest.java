@@ -7,6 +7,7 @@ final class RouteEdgesTest {
         edges.edge("none from what is no JUNCTION", RouteEdgesTest::wrongFrom);
         edges.edge("none to what is no JUNCTION", RouteEdgesTest::wrongTo);
         edges.edge("by which LEAST comes out", RouteEdgesTest::leastComesOut);
+        edges.edge("next to it: a LINE elsewhere is not taken", RouteEdgesTest::nextToIt);
         edges.edge("of several that to the least JUNCTION", RouteEdgesTest::leastJunction);
         edges.edge("the least JUNCTION, though it is not the end", RouteEdgesTest::notTheEnd);
         edges.edge("of several there that of the least number", RouteEdgesTest::leastNumber);
@@ -69,6 +70,16 @@ final class RouteEdgesTest {
         check.due("route(0, 2), one mile less by another junction", x.route(0, 2), 1);
         x.line(0, 2, 0, 19);
         check.due("route(0, 2), one mile less by itself", x.route(0, 2), 3);
+    }
+
+    // 3 miles from 4 to 5 and 7 from 0 to 3 are as many as the 10 from 2 to 3, but elsewhere.
+    private static void nextToIt(Check check) {
+        WagonClearing x = new WagonClearing();
+        x.line(4, 5, 0, 3);
+        x.line(0, 3, 0, 7);
+        x.line(2, 3, 0, 10);
+        check.due("route(2, 3)", x.route(2, 3), 2);
+        check.due("route(3, 2)", x.route(3, 2), 2);
     }
 
     private static void leastJunction(Check check) {
